@@ -86,7 +86,9 @@ public final class PinAngels {
         return now.addToTune(figure);
     }
 
+    /** No figures at all are a tune too, told in place of the elder one: so nothing may be undone behind it. */
     public int hush() {
+        now.past.forget();
         int was = now.length;
         now.length = 0;
         return was;

@@ -421,15 +421,10 @@ public final class PromisesTest {
         x.seed(6);
         x.undo();
         due.is("18: the draw as ahead of it, whatever was told since", x.seed(0), 5);
-        x.beats(1);
-        x.hush();
-        due.is("18: a hush leaves what may be undone", x.undo(), 0);
-        due.is("18: but the tune has none", x.count(2), 0);
-        due.is("18: the beat is as it was", x.count(3), 2);
     }
 
     private static void p18Cleared() {
-        for (int how = 0; how < 8; how++) {
+        for (int how = 0; how < 9; how++) {
             PinAngels x = Due.told("*.......;r1:0");
             x.beats(3);
             switch (how) {
@@ -437,13 +432,20 @@ public final class PromisesTest {
                 case 1: x.figure(0, 0); break;
                 case 2: x.tune(0); break;
                 case 3: Due.tell(x, "........"); break;
-                case 4: x.angel(x.at(0)); break;
-                case 5: x.figure(0, 8); break;
-                case 6: x.tune(1); break;
+                case 4: x.hush(); break;
+                case 5: x.angel(x.at(0)); break;
+                case 6: x.figure(0, 8); break;
+                case 7: x.tune(1); break;
                 default: Due.tell(x, "x"); break;
             }
-            due.is("18: cleared or, if refused, not: " + how, x.count(7), how < 4 ? 0 : 3);
+            due.is("18: cleared or, if refused, not: " + how, x.count(7), how < 5 ? 0 : 3);
+            due.is("18: undo likewise: " + how, x.undo(), how < 5 ? PinAngels.NONE : 2);
         }
+        PinAngels y = new PinAngels();
+        y.drift(1);
+        due.is("18: a hush where there was no tune", y.hush(), 0);
+        due.is("18: leaves nothing to be undone, too", y.undo(), PinAngels.NONE);
+        due.is("18: the beat stays", y.count(3), 1);
     }
 
     private static void p19() {

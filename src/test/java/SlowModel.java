@@ -119,6 +119,7 @@ final class SlowModel {
     int hush() {
         int n = w.tune.size();
         w.tune.clear();
+        w.done.clear();
         return n;
     }
 
