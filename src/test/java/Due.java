@@ -15,11 +15,23 @@ final class Due {
         is(what, so ? 1 : 0, 1);
     }
 
-    /** Types a text and takes it as a ring. */
-    static int tell(PinAngels x, String text) {
+    void same(String what, String got, String want) {
+        asked++;
+        if (!got.equals(want)) {
+            wrong++;
+            System.out.println(what + "\n  is  " + got + "\n  due " + want);
+        }
+    }
+
+    static void type(PinAngels x, String text) {
         for (int i = 0; i < text.length(); i++) {
             x.type(text.charAt(i));
         }
+    }
+
+    /** Types a text and takes it as a ring. */
+    static int tell(PinAngels x, String text) {
+        type(x, text);
         return x.ring();
     }
 

@@ -46,8 +46,11 @@ public final class ModelTest {
         for (int weight : WEIGHTS) total += weight;
         // In some runs what a new object has is told first by a tape, in others call by call.
         if (run % 2 == 0) tape();
+        // In some the BEAT is near its last; no ring is told there, for it would be BEAT 0 again.
+        boolean late = run % 10 == 4;
+        if (late) goLate();
         while (calls.size() < CALLS && wrong == 0) {
-            if (random.nextInt(60) == 0) {
+            if (!late && random.nextInt(60) == 0) {
                 tape();
                 continue;
             }
@@ -60,6 +63,15 @@ public final class ModelTest {
             System.out.println("run " + run + ":");
             for (String call : calls) System.out.println("  " + call);
         }
+    }
+
+    private void goLate() {
+        for (int t = 0; t < 249; t++) {
+            check("beats(40)", real.beats(40), slow.beats(40));
+        }
+        int n = 1 + random.nextInt(39);
+        check("beats(" + n + ")", real.beats(n), slow.beats(n));
+        check("image()", real.image(), slow.image());
     }
 
     /** A number from a to b; now and then one just beyond, or far beyond. */
@@ -116,7 +128,7 @@ public final class ModelTest {
             int c = b.charAt(i);
             check("type(" + c + ")", real.type(c), slow.type(c));
         }
-        check("ring()", real.ring(), slow.ring());
+        if (calls.size() < CALLS && wrong == 0) check("ring()", real.ring(), slow.ring());
     }
 
     private void spoil(StringBuilder b) {
