@@ -8,6 +8,8 @@ import java.util.Arrays;
 import java.util.HashSet;
 import java.util.Set;
 import java.util.TreeSet;
+import java.util.regex.Matcher;
+import java.util.regex.Pattern;
 
 /** The class's members are those of the document, and its file keeps to what of LANGUAGE.md can be seen in its text. */
 public final class FaceTest {
@@ -29,7 +31,12 @@ public final class FaceTest {
         members();
         constants();
         nested(PinAngels.class);
+        sizes(PinAngels.class);
+        for (Class<?> c : PinAngels.class.getDeclaredClasses()) {
+            sizes(c);
+        }
         text();
+        library();
         due.end("FaceTest");
     }
 
@@ -73,10 +80,19 @@ public final class FaceTest {
         }
     }
 
-    private static void nested(Class<?> outer) {
+    private static Set<String> names() {
         Set<String> names = new HashSet<>();
         for (String m : METHODS) {
             names.add(m.substring(0, m.indexOf('(')));
+        }
+        return names;
+    }
+
+    private static void nested(Class<?> outer) {
+        Set<String> names = names();
+        for (Method m : outer.getDeclaredMethods()) {
+            due.holds(m + " has a name of its own, if private",
+                    !Modifier.isPrivate(m.getModifiers()) || !names.contains(m.getName()));
         }
         due.holds("at most twelve classes", outer.getDeclaredClasses().length < 12);
         for (Class<?> c : outer.getDeclaredClasses()) {
@@ -91,8 +107,37 @@ public final class FaceTest {
         }
     }
 
+    /** "A method takes at most seven parameters .. a class some twenty fields beside its constants." */
+    private static void sizes(Class<?> c) {
+        for (Method m : c.getDeclaredMethods()) {
+            due.holds(m + " takes at most seven", m.getParameterCount() <= 7);
+        }
+        int fields = 0;
+        for (Field f : c.getDeclaredFields()) {
+            fields += Modifier.isStatic(f.getModifiers()) ? 0 : 1;
+        }
+        due.holds(c + " has at most twenty fields", fields <= 20);
+    }
+
+    /** "The library: only what stands here", by the names that begin with a capital and are followed by a dot. */
+    private static void library() throws Exception {
+        Set<String> used = new TreeSet<>();
+        String code = file().replaceAll("(?s)/\\*.*?\\*/|//[^\n]*", "");
+        Matcher m = Pattern.compile("\\b[A-Z][a-z]\\w*\\.\\w+").matcher(code);
+        while (m.find()) {
+            used.add(m.group());
+        }
+        used.removeAll(Set.of("Tape.BLANK", "Tape.LAST_LETTER"));
+        Set<String> listed = Set.of("System.arraycopy", "Math.min", "Math.max", "Integer.bitCount");
+        due.holds("the library: " + used, listed.containsAll(used));
+    }
+
+    private static String file() throws Exception {
+        return Files.readString(Path.of("src/main/java/PinAngels.java"));
+    }
+
     private static void text() throws Exception {
-        String text = Files.readString(Path.of("src/main/java/PinAngels.java"));
+        String text = file();
         for (String no : NOT_IN_FILE) {
             due.holds("the file has no '" + no + "'", !text.contains(no));
         }
